@@ -499,7 +499,6 @@ public final class MudCouncil {
         }
     }
 
-    /** The rooms with their exits, shops and floors. */
     private static final class Places {
         final int[] exits = new int[ROOMS * DIRECTIONS];
         final int[] tills = new int[ROOMS];
@@ -601,7 +600,6 @@ public final class MudCouncil {
         }
     }
 
-    /** The players. */
     private static final class People {
         int count = 0;
         final int[] rooms = new int[PLAYERS];
@@ -689,7 +687,6 @@ public final class MudCouncil {
         }
     }
 
-    /** The quests with their stages. */
     private static final class Quests {
         int count = 0;
         final int[] rewards = new int[QUESTS];

@@ -6,6 +6,7 @@ final class ActsTest {
         promise12Say();
         promise13Shout();
         promise13ShoutByTwoExits();
+        promise13ShoutInEachDirection();
         promise14Take();
         promise15Drop();
         promise16Give();
@@ -15,6 +16,7 @@ final class ActsTest {
         promise20NobodyBeaten();
         promise20RivalBeaten();
         promise20ActorBeaten();
+        promise20OthersKeepTheirs();
         promise20TiesAndHealthOfOne();
         promise20ReadyTimeNotLess();
         promise20Refuses();
@@ -120,6 +122,24 @@ final class ActsTest {
         Check.due("heard once", x.shout(8), 1);
         Check.due("word", x.heard(1, 0), 8);
         Check.outOfBounds("not twice", () -> x.heard(1, 1));
+    }
+
+    private static void promise13ShoutInEachDirection() {
+        MudCouncil x = new MudCouncil();
+        x.join(3, 0, 0);
+        for (int direction = 0; direction < 4; direction++) {
+            x.link(3, direction, 4 + direction);
+        }
+        x.join(4, 0, 0);
+        x.join(5, 0, 0);
+        x.join(6, 0, 0);
+        Check.due("heard north, east and south", x.shout(1), 3);
+        MudCouncil y = new MudCouncil();
+        y.link(3, MudCouncil.WEST, 7);
+        y.join(3, 0, 0);
+        y.join(7, 0, 0);
+        Check.due("heard west", y.shout(1), 1);
+        Check.due("heard back east", y.shout(1), 1);
     }
 
     private static void promise14Take() {
@@ -378,6 +398,29 @@ final class ActsTest {
         Check.due("the winner's ready time", x.readyAt(1), 2);
         Check.due("the floor", x.onFloor(4, 2), 1);
         Check.due("turn", x.turn(), 1);
+    }
+
+    private static void promise20OthersKeepTheirs() {
+        MudCouncil x = new MudCouncil();
+        x.join(4, 31, 0);
+        x.join(4, 10, 6);
+        x.join(4, 8, 6);
+        for (int kind = 0; kind < 5; kind++) {
+            x.scatter(4, kind, 3);
+            x.take(kind);
+            x.take(kind);
+            x.take(kind);
+        }
+        Check.due("the actor is beaten", x.attack(1), 0);
+        for (int kind = 0; kind < 5; kind++) {
+            Check.due("goods of the beaten one", x.goodsOf(0, kind), 0);
+            Check.due("goods of the winner", x.goodsOf(1, kind), 1);
+            Check.due("goods of a third one", x.goodsOf(2, kind), 1);
+            Check.due("floor of the fight", x.onFloor(4, kind), 1);
+            Check.due("floor of the next room", x.onFloor(5, kind), 0);
+            Check.due("floor of room 0", x.onFloor(0, kind), 0);
+        }
+        Check.due("coins of a third one", x.coinsOf(2), 8);
     }
 
     // Behind the seed 5 the die shows 3, 4 three times; behind 4 it shows 4, 1, then 2, 5, then 2, 1.

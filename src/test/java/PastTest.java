@@ -6,6 +6,7 @@ final class PastTest {
         promises39To41OfAFight();
         promises39To41OfTheLongestRun();
         pastIsForgottenInBetween();
+        dieAndGoodsStartAnew();
         Check.finish("PastTest");
     }
 
@@ -123,5 +124,27 @@ final class PastTest {
             Check.due("coins after one", x.coinsAfter(1, 0), 7);
         }
         Check.due("floor now", x.onFloor(3, 0), 1);
+    }
+
+    // Without a call of seed() the die starts with the seed 1 each time: the actor of strength 0 is beaten then.
+    private static void dieAndGoodsStartAnew() {
+        MudCouncil x = new MudCouncil();
+        x.join(4, 31, 0);
+        x.join(4, 10, 6);
+        x.attack(1);
+        MudCouncil y = new MudCouncil();
+        y.quest(9);
+        y.stage(0, MudCouncil.HOLD, 2, 1);
+        y.endow(9);
+        y.join(0, 0, 0);
+        y.scatter(0, 2, 1);
+        y.rest();
+        y.take(2);
+        for (int i = 0; i < 3; i++) {
+            Check.due("coins behind the fight", x.coinsAfter(3, 0), 16);
+            Check.due("room behind the fight", x.roomAfter(3, 0), 0);
+            Check.due("coins behind the take", y.coinsAfter(7, 0), 9);
+            Check.due("coins ahead of the take", y.coinsAfter(6, 0), 0);
+        }
     }
 }
