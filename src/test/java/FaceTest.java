@@ -16,6 +16,8 @@ final class FaceTest {
         constants();
         methods();
         nothingElse();
+        noNamesakes();
+        classesInside();
         Check.finish("FaceTest");
     }
 
@@ -115,5 +117,23 @@ final class FaceTest {
             open += Modifier.isPrivate(field.getModifiers()) ? 0 : 1;
         }
         Check.due("constants", open, 9);
+    }
+
+    private static void noNamesakes() {
+        Set<String> open = new TreeSet<>();
+        Set<String> hidden = new TreeSet<>();
+        for (Method method : MudCouncil.class.getDeclaredMethods()) {
+            (Modifier.isPublic(method.getModifiers()) ? open : hidden).add(method.getName());
+        }
+        hidden.retainAll(open);
+        Check.due("private methods that bear the name of a public one", hidden, Set.of());
+    }
+
+    private static void classesInside() {
+        for (Class<?> inside : MudCouncil.class.getDeclaredClasses()) {
+            int modifiers = inside.getModifiers();
+            Check.due(inside.getName() + " is static", Modifier.isStatic(modifiers), true);
+            Check.due(inside.getName() + " is open", Modifier.isPublic(modifiers) || Modifier.isProtected(modifiers), false);
+        }
     }
 }

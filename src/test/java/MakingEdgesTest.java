@@ -536,6 +536,17 @@ final class MakingEdgesTest {
     private static void stageOfNoSuchKind() {
         for (int kind : Edges.beyond(MudCouncil.VISIT, MudCouncil.BEAT)) {
             Edges.illegalArgument("stage of kind " + kind, Edges::busy, x -> x.stage(0, kind, 0, 1));
+            stageOfNoSuchKindNamesNothing(kind);
+        }
+    }
+
+    // Only a kind that there is says what "first" and "second" are, so that they may be anything here.
+    private static void stageOfNoSuchKindNamesNothing(int kind) {
+        for (int first : new int[] {Integer.MIN_VALUE, -1, 3, 4, 5, 7, 8, Integer.MAX_VALUE}) {
+            Edges.illegalArgument("stage of kind " + kind + ", first " + first, Edges::busy,
+                    x -> x.stage(0, kind, first, 100));
+            Edges.outOfBounds("stage of no quest, kind " + kind + ", first " + first, Edges::busy,
+                    x -> x.stage(2, kind, first, 100));
         }
     }
 
